@@ -1,4 +1,5 @@
 import java.util.ArrayList;
+import java.util.Arrays;
 import java.util.List;
 import java.util.NoSuchElementException;
 import java.util.Random;
@@ -13,6 +14,7 @@ public final class ModelTest {
         "colours", "clique", "lowest", "place", "lasts", "later", "still", "keeps", "mercy", "drought", "clash",
         "payer", "pray", "seal", "road", "boon", "seen", "forget", "springs", "stones", "nights", "sunday",
         "divide", "keep", "again", "count", "row"};
+    private static final String[] BUSY = {"carry", "night", "week", "carry", "night", "weeks", "rests", "undo"};
     private static final int THROWN = -12345;
 
     private final Random random;
@@ -43,22 +45,63 @@ public final class ModelTest {
 
     private String run() {
         int length = 40 + random.nextInt(120);
-        tellText(randomCounty());
-        String wrong = call("county");
+        boolean busy = random.nextInt(5) == 0;
+        String wrong = begin();
         for (int i = 0; i < length && wrong == null; i++) {
             String name = CALLS[random.nextInt(CALLS.length)];
-            if (name.equals("sign") && random.nextInt(3) > 0) {
-                tellText(random.nextBoolean() ? randomNight() : randomCounty());
-                name = random.nextBoolean() ? "night" : "county";
+            if (busy && random.nextBoolean()) {
+                name = BUSY[random.nextInt(BUSY.length)];
+            }
+            if (name.equals("night") && random.nextInt(4) > 0) {
+                tellText(randomNight());
+            }
+            if (name.equals("county") && random.nextInt(4) > 0) {
+                tellText(randomCounty());
             }
             wrong = call(name);
         }
         return wrong;
     }
 
+    /** A few runs begin with nothing, some with a crowd of farms that nearly all touch. */
+    private String begin() {
+        int kind = random.nextInt(8);
+        if (kind == 0) {
+            return null;
+        }
+        tellText(kind < 3 ? crowd() : randomCounty());
+        String wrong = call("county");
+        for (int a = 0; a < y.farms() && kind < 3; a++) {
+            for (int b = 0; b < a; b++) {
+                int stone = random.nextInt(6) == 0 ? -1 : random.nextInt(10);
+                y.touch(a, b, stone);
+                x.touch(a, b, stone);
+            }
+        }
+        if (kind % 2 == 0 && wrong == null) {
+            wrong = callWith("law", 0, 1 + random.nextInt(9));
+        }
+        return wrong;
+    }
+
+    private String crowd() {
+        StringBuilder s = new StringBuilder();
+        int farms = 6 + random.nextInt(4);
+        int spread = random.nextBoolean() ? 100 : 30;
+        for (int i = 0; i < farms; i++) {
+            s.append(i > 0 ? ";" : "").append(random.nextInt(spread)).append('+').append(random.nextInt(10));
+        }
+        return s.toString();
+    }
+
     private String call(String name) {
         int[] v = {0, 0, 0, 0};
         choose(name, v);
+        return callWith(name, v);
+    }
+
+    private String callWith(String name, int... args) {
+        int[] v = Arrays.copyOf(args, 4);
         if (name.equals("lowest") && !isCheapForModel()) {
             return null;
         }
@@ -136,7 +179,11 @@ public final class ModelTest {
             case "end": v[0] = upTo(0, y.text.length()); break;
             case "farm": v[0] = farmNumber(); v[1] = upTo(0, 4); break;
             case "stone": case "carry": case "clash": case "stones": case "road":
-                v[0] = farmNumber(); v[1] = farmNumber(); break;
+                v[0] = farmNumber(); v[1] = farmNumber();
+                for (int tries = 0; tries < 3 && y.is(v[0]) && y.stone(v[0], v[1]) < 0; tries++) {
+                    v[1] = farmNumber();
+                }
+                break;
             case "touch": v[0] = farmNumber(); v[1] = farmNumber(); v[2] = upTo(-1, 9); break;
             case "law": v[0] = upTo(0, 2); v[1] = upTo(0, 9); break;
             case "set": v[0] = upTo(0, 1); v[1] = farmNumber(); v[2] = v[0] == 0 ? upTo(0, 99) : upTo(0, 9); break;
@@ -184,7 +231,7 @@ public final class ModelTest {
     private String randomCounty() {
         StringBuilder s = new StringBuilder();
         int there = y.farms();
-        int lines = random.nextInt(16);
+        int lines = random.nextInt(8) + random.nextInt(12);
         boolean near = random.nextBoolean();
         for (int i = 0; i < lines; i++) {
             s.append(i > 0 ? ";" : "");
@@ -207,15 +254,20 @@ public final class ModelTest {
         int lines = random.nextInt(random.nextInt(4) == 0 ? 12 : 5);
         for (int i = 0; i < lines; i++) {
             int farms = Math.max(1, random.nextInt(6) == 0 ? 9 : y.farms());
-            s.append(i > 0 ? ";" : "").append((char) ('a' + random.nextInt(farms))).append('>');
-            s.append((char) ('a' + random.nextInt(farms)));
+            int from = random.nextInt(farms);
+            int to = random.nextInt(farms);
+            for (int tries = 0; tries < 5 && y.carried(y.water.depth, from, to) == null; tries++) {
+                from = random.nextInt(farms);
+                to = random.nextInt(farms);
+            }
+            s.append(i > 0 ? ";" : "").append((char) ('a' + from)).append('>').append((char) ('a' + to));
             s.append(random.nextInt(4) == 0 ? "*" + (1 + random.nextInt(9)) : "");
         }
         return spoilt(s);
     }
 
     private String spoilt(StringBuilder s) {
-        if (random.nextInt(4) == 0 && s.length() > 0) {
+        if (random.nextInt(5) == 0 && s.length() > 0) {
             String signs = "0123456789abcdefghij+/;>*A `:";
             char sign = random.nextInt(8) == 0 ? (char) random.nextInt(256)
                     : signs.charAt(random.nextInt(signs.length()));
