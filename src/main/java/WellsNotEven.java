@@ -486,7 +486,7 @@ public final class WellsNotEven {
 
     public int lasts() {
         ahead.look(land);
-        return ahead.firstUnlawful();
+        return weeksTold(ahead.lasting());
     }
 
     public int later(int f, int n) {
@@ -504,9 +504,8 @@ public final class WellsNotEven {
         ahead.look(land);
         for (int w = 0; w <= WEEKS_AHEAD; w++) {
             int pairs = ahead.evenPairs();
-            long before = ahead.pack();
             ahead.pass(0, 0);
-            if (ahead.pack() == before) {
+            if (ahead.settled) {
                 numbers.tell(pairs);
                 return w;
             }
@@ -642,8 +641,9 @@ public final class WellsNotEven {
         for (int p = 0; p < ahead.pairs; p++) {
             int was = ahead.stone[p];
             if (was > 0) {
+                ahead.rewind(land);
                 ahead.stone[p] = 0;
-                int lasting = lastingFromNow();
+                int lasting = ahead.lasting();
                 ahead.stone[p] = was;
                 if (best == NONE || lasting > longest) {
                     best = p;
@@ -657,13 +657,6 @@ public final class WellsNotEven {
         numbers.tell(ahead.second[best]);
         numbers.add(weeksTold(longest));
         return ahead.first[best];
-    }
-
-    /** As lasts(), but not within the WEEKS looked at is greater than all of them. */
-    private int lastingFromNow() {
-        ahead.rewind(land);
-        int weeks = ahead.firstUnlawful();
-        return weeks == NOT_SO ? WEEKS_AHEAD + 1 : weeks;
     }
 
     private static int weeksTold(int lasting) {
@@ -694,12 +687,13 @@ public final class WellsNotEven {
             return NOT_SO;
         }
         ahead.look(land);
-        int asItIs = lastingFromNow();
+        int asItIs = ahead.lasting();
         int best = NONE;
         int longest = 0;
         for (int f = 0; f < land.farms; f++) {
+            ahead.rewind(land);
             ahead.spring[f] = Math.min(DIGIT_MOST, land.spring[f] + 1);
-            int lasting = lastingFromNow();
+            int lasting = ahead.lasting();
             ahead.spring[f] = land.spring[f];
             if (best == NONE || lasting > longest) {
                 best = f;
@@ -1331,6 +1325,10 @@ public final class WellsNotEven {
         int pairs = 0;
         int lost = 0;
 
+        /** The last WEEK left all depths as they were, and so will the next without RAIN. */
+        boolean settled = false;
+
+        private final int[] before = new int[FARMS_MOST];
         private final int[] flow = new int[PAIRS_MOST];
         private final int[] gives = new int[FARMS_MOST];
         private int farms = 0;
@@ -1354,8 +1352,10 @@ public final class WellsNotEven {
             }
         }
 
+        /** Comes ahead of any change to springs and stones here, for it unsettles. */
         void rewind(Land land) {
             System.arraycopy(land.depth, 0, depth, 0, FARMS_MOST);
+            settled = false;
         }
 
         int pairOf(int a, int b) {
@@ -1371,13 +1371,19 @@ public final class WellsNotEven {
 
         /** A WEEK goes by, up to its SUNDAY. */
         void pass(int rain, int bits) {
+            if (settled && rain == 0) {
+                return;
+            }
+            System.arraycopy(depth, 0, before, 0, FARMS_MOST);
             measureSeep();
             letSeep();
             lost = 0;
+            settled = rain == 0;
             for (int f = 0; f < farms; f++) {
                 int water = depth[f] + spring[f] + ((bits >> f & 1) == 1 ? rain : 0);
                 lost += Math.max(0, water - DEPTH_MOST);
                 depth[f] = putToDepth(water);
+                settled = settled && depth[f] == before[f];
             }
         }
 
@@ -1428,14 +1434,15 @@ public final class WellsNotEven {
             return firstEven() == NONE;
         }
 
-        int firstUnlawful() {
+        /** After how many weeks it is not lawful first; one more than are looked at, if it is on all. */
+        int lasting() {
             for (int w = 1; w <= WEEKS_AHEAD; w++) {
                 pass(0, 0);
                 if (!isLawful()) {
                     return w;
                 }
             }
-            return NOT_SO;
+            return WEEKS_AHEAD + 1;
         }
 
         boolean allAlike() {
@@ -1481,6 +1488,7 @@ public final class WellsNotEven {
             for (int f = 0; f < farms; f++) {
                 depth[f] = (int) (key >>> DEPTH_BITS * f) & DEPTH_MASK;
             }
+            settled = false;
         }
     }
 
