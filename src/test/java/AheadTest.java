@@ -32,6 +32,13 @@ public final class AheadTest {
         c.due("by seep", Check.of("40;0;ab/1").lasts(), 1);
         WellsNotEven slow = Check.of("0+1;99;0;ab;ac/9");
         c.due("a loses water to c, and does not rise so far in 100", slow.lasts(), -2);
+        // b gets water till it has 81 inches; a is full then, 180 in all: 100 more than at first.
+        WellsNotEven hundred = Check.of("60+1;20;99;ab/9;ac");
+        c.due("100 weeks", hundred.lasts(), 100);
+        c.due("100 weeks", hundred.clash(0, 2), 100);
+        hundred.set(0, 1, 19);
+        c.due("101 weeks", hundred.lasts(), -2);
+        c.due("101 weeks", hundred.clash(0, 2), -2);
     }
 
     private static void later() {
@@ -59,6 +66,8 @@ public final class AheadTest {
         c.due("now", y.still(), 0);
         c.row("now", y, 0);
         c.due("99 weeks", Check.of("0+1").still(), 99);
+        c.due("100 weeks: full after 99, then b gets one", Check.of("0+1;81;ab/9").still(), 100);
+        c.due("101 weeks", Check.of("0+1;80;ab/9").still(), -2);
         WellsNotEven slow = Check.of("0+1;0;ab/9");
         slow.even();
         c.due("198 inches, one a week", slow.still(), -2);
@@ -171,6 +180,10 @@ public final class AheadTest {
 
     private static void pray() {
         WellsNotEven x = Check.of("10;10;ab");
+        c.due("the least size", x.pray(1), -1);
+        x.set(0, 1, 9);
+        c.due("none", x.pray(1), 0);
+        x.set(0, 1, 10);
         x.law(0, 3);
         c.due("below 0 first", x.pray(1), -3);
         c.row("below 0 first", x, 0);

@@ -95,6 +95,18 @@ public final class BucketsTest {
         c.due("nine by four", y.reach(4), -3);
         WellsNotEven z = Check.of("49;0;59;0;ab;cd");
         c.due("a alone gives b, c alone gives d", z.reach(4), 15);
+        c.due("b is full, and so is a", Check.of("99;99;5;ab;bc").reach(1), 2);
+        reachAtTheEdge("2;2;2;2;2;3;3;ab;ac;bd;ae;ef;ag;af;bc;gc;bf", 3000, 3000);
+        reachAtTheEdge("3;1;3;3;1;1;1;2;ab;ac;cd;ae;df;dg;fh;dc;cg;dh", 3001, -3);
+    }
+
+    /** Counted by the model, that can look through more. */
+    private static void reachAtTheEdge(String county, int depths, int due) {
+        PlainWells plain = new PlainWells();
+        plain.text = county;
+        plain.county();
+        c.due(county + ", the model", plain.find(plain.water.depth, 4, 4000).size(), depths);
+        c.due(county, Check.of(county).reach(4), due);
     }
 
     private static void selfish() {
@@ -189,12 +201,21 @@ public final class BucketsTest {
         c.due("one depth", y.alter(0), 45);
         c.row("one depth", y, 85);
         c.due("nothing changes", y.farm(0, 0), 40);
+        y.set(0, 6, 90);
+        y.set(0, 0, 0);
+        c.due("the highest alone", y.alter(0), 99);
+        c.row("the highest alone", y, 99);
+        WellsNotEven z = Check.of("3;3;ab");
+        z.law(0, 3);
+        c.due("to 0", z.alter(0), 3);
+        c.row("to 0", z, 0);
     }
 
     private static void fill() {
         WellsNotEven x = Check.of("50;50;ab");
         c.due("none", x.fill(0, 50), 0);
         c.row("none", x);
+        c.due("none for 0", x.fill(0, 0), 0);
         c.due("ten", x.fill(1, 60), 10);
         c.row("ten", x, 1, 1, 1, 1, 1, 1, 1, 1, 1, 1);
         c.due("49", x.fill(0, 99), 49);

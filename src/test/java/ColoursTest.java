@@ -90,6 +90,10 @@ public final class ColoursTest {
         y.law(0, 9);
         c.due("but one", y.place(31), 15);
         c.row("but one", y, 85, 99);
+        y.set(0, 5, 90);
+        c.due("one depth", y.place(63), 1);
+        c.row("one depth", y, 99, 99);
+        y.set(0, 5, 93);
         c.due("nowhere", y.place(63), 0);
         c.row("nowhere", y);
     }

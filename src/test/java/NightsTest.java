@@ -164,6 +164,9 @@ public final class NightsTest {
         c.due("none", x.weeks(0), 0);
         c.row("none", x, 0);
         c.due("not kept", x.count(5), 0);
+        x.weeks(1);
+        c.due("one is kept", x.count(5), 1);
+        x.undo();
         x.law(0, 2);
         c.due("weeks: 1, 2 e, 3 e, 4 e, 5", x.weeks(5), 6);
         c.row("lawful on two", x, 2);

@@ -107,6 +107,9 @@ public final class SundaysTest {
         far.seen(1, 5);
         far.sunday();
         c.row("what was seen does not matter", far, 3);
+        WellsNotEven two = Check.of("20;25;25;ab;ac");
+        c.due("a meets both", two.sunday(), 5);
+        c.row("a meets both", two, 3);
         WellsNotEven none = new WellsNotEven();
         none.weeks(0);
         c.due("no farms", none.sunday(), -2);
