@@ -489,6 +489,10 @@ public final class WellsNotEven {
         return weeksTold(ahead.lasting());
     }
 
+    private static int weeksTold(int lasting) {
+        return lasting > WEEKS_AHEAD ? NOT_SO : lasting;
+    }
+
     public int later(int f, int n) {
         if (!land.has(f) || !isWithin(n, 0, WEEKS_AHEAD)) {
             return NONE;
@@ -657,10 +661,6 @@ public final class WellsNotEven {
         numbers.tell(ahead.second[best]);
         numbers.add(weeksTold(longest));
         return ahead.first[best];
-    }
-
-    private static int weeksTold(int lasting) {
-        return lasting > WEEKS_AHEAD ? NOT_SO : lasting;
     }
 
     public int road(int from, int to) {
@@ -991,6 +991,7 @@ public final class WellsNotEven {
         }
 
         int readNight(Text text) {
+            // A night may name farms that are not there: it is the carrying that fails.
             farms = FARMS_MOST;
             start = FROM_DUE;
             return readUpTo(NIGHT_SIGNS, text);
