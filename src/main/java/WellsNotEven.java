@@ -4,8 +4,8 @@ import java.util.NoSuchElementException;
 /**
  * A county of farms whose wells must not stand too near one depth on Sunday.
  *
- * <p>The promises are those of ../shared/DOC.md. The rows that searches need are made once and used
- * again, so that no call makes objects but the first search.
+ * <p>The promises are those of ../shared/DOC.md. All rows are made by the constructor and used again:
+ * no call makes anything but the exception that it throws.
  */
 public final class WellsNotEven {
 
@@ -58,24 +58,22 @@ public final class WellsNotEven {
     private static final int DEPTH_MASK = 127;
     private static final int SLOT_BITS = 13;
     private static final int SLOTS = 1 << SLOT_BITS;
-    private static final int INDEX_BITS = 12;
+    private static final int SLOTS_IN_ONE = 4;
+    private static final int INDEX_BITS = 16;
     private static final int INDEX_MASK = (1 << INDEX_BITS) - 1;
-    private static final int STAMP_MOST = 500000;
     private static final long SPREAD = 0x9E3779B97F4A7C15L;
 
     private final Text text = new Text();
     private final Reader reader = new Reader();
     private final Land land = new Land();
     private final Ahead ahead = new Ahead();
+    private final Search search = new Search();
     private final Graph graph = new Graph();
     private final Numbers numbers = new Numbers();
     private final Past past = new Past();
     private final Snapshot[] kept = new Snapshot[KEPT_MOST];
     private final Sightings sightings = new Sightings();
     private final int[] shown = new int[WAYS_MOST * SUNDAYS];
-
-    /** Made by the first search: most of what an object holds, and many objects never search. */
-    private Search search = null;
 
     public WellsNotEven() {
         for (int i = 0; i < KEPT_MOST; i++) {
@@ -316,43 +314,38 @@ public final class WellsNotEven {
     }
 
     private int fewestSuch(int farm, int depth) {
-        Search from = searchFromNow();
-        int at = from.firstSuch(farm, depth);
+        prepareSearch();
+        int at = search.firstSuch(ahead, farm, depth);
         if (at < 0) {
             return at;
         }
-        from.tellWay(at, numbers);
-        return from.stepsTo(at);
+        return search.tellWay(at, numbers);
     }
 
-    private Search searchFromNow() {
-        if (search == null) {
-            search = new Search(ahead);
-        }
+    private void prepareSearch() {
         ahead.look(land);
         search.prepare(land);
-        return search;
     }
 
     public int reach(int n) {
         if (!isWithin(n, 0, REACH_MOST)) {
             return NONE;
         }
-        Search from = searchFromNow();
-        if (!from.findWithin(n)) {
+        prepareSearch();
+        if (!search.findWithin(ahead.pack(), n)) {
             return BEYOND;
         }
         int lawful = 0;
         int fewest = PAIRS_MOST;
-        for (int i = 0; i < from.found; i++) {
-            ahead.unpack(from.keys[i]);
+        for (int i = 0; i < search.found; i++) {
+            ahead.unpack(search.keys[i]);
             int pairs = ahead.evenPairs();
             lawful += pairs == 0 ? 1 : 0;
             fewest = Math.min(fewest, pairs);
         }
         numbers.tell(lawful);
         numbers.add(fewest);
-        return from.found;
+        return search.found;
     }
 
     public int selfish(int f) {
@@ -521,18 +514,18 @@ public final class WellsNotEven {
         if (!isWithin(n, 0, KEEPS_WEEKS) || !isWithin(k, 0, KEEPS_BUCKETS)) {
             return NONE;
         }
-        Search from = searchFromNow();
+        prepareSearch();
         int buckets = 0;
         int lawfulWeeks = 0;
         boolean lawful = true;
         while (lawfulWeeks < n && lawful) {
-            if (!from.findWithin(k)) {
+            if (!search.findWithin(ahead.pack(), k)) {
                 return BEYOND;
             }
-            int at = from.firstLawfulOnSunday();
+            int at = search.firstLawfulOnSunday(ahead);
             lawful = at != NONE;
             if (lawful) {
-                buckets += from.stepsTo(at);
+                buckets += search.stepsTo(at);
                 lawfulWeeks++;
             }
         }
@@ -946,6 +939,15 @@ public final class WellsNotEven {
                 list[size] = v;
                 size++;
             }
+        }
+
+        /** Ahead of those that there are: the last one goes, if there is no room. */
+        void addAhead(int v) {
+            size = Math.min(NUMBERS_MOST, size + 1);
+            for (int i = size - 1; i > 0; i--) {
+                list[i] = list[i - 1];
+            }
+            list[0] = v;
         }
 
         void tell(int v) {
@@ -1493,32 +1495,28 @@ public final class WellsNotEven {
         }
     }
 
-    /** Finds DEPTHS that can come by BUCKETS, one by one, each once. */
+    /**
+     * Finds DEPTHS that can come by BUCKETS, one by one, each once. By which way each came is not kept:
+     * a bucket can always be carried back, so it came from the first found of those around it.
+     */
     private static final class Search {
         final long[] keys = new long[FOUND_MOST];
         int found = 0;
 
-        private final Ahead ahead;
-        private final int[] parent = new int[FOUND_MOST];
-        private final int[] arrivedBy = new int[FOUND_MOST];
+        /** Where keys stand: index and 1, or 0; four of them in one long, for the room counts elements. */
+        private final long[] slots = new long[SLOTS / SLOTS_IN_ONE];
 
-        /** Where keys stand: a stamp of this search above the index, so that none need be wiped. */
-        private final int[] slots = new int[SLOTS];
-        private int stamp = 0;
+        /** Where the key that was looked for last stands or would stand. */
+        private int place = 0;
 
-        private final int[] fromShift = new int[MOVES_MOST];
-        private final int[] toShift = new int[MOVES_MOST];
-        private final int[] told = new int[MOVES_MOST];
+        private final int[] moveFrom = new int[MOVES_MOST];
+        private final int[] moveTo = new int[MOVES_MOST];
         private int moves = 0;
         private int bucket = 1;
 
         private int head = 0;
         private int nextMove = 0;
         private boolean more = false;
-
-        Search(Ahead ahead) {
-            this.ahead = ahead;
-        }
 
         /** The BUCKETS that may be carried, rising as they are told. */
         void prepare(Land land) {
@@ -1527,35 +1525,29 @@ public final class WellsNotEven {
             for (int from = 0; from < land.farms; from++) {
                 for (int to = 0; to < land.farms; to++) {
                     if (land.between(from, to) != NONE) {
-                        fromShift[moves] = DEPTH_BITS * from;
-                        toShift[moves] = DEPTH_BITS * to;
-                        told[moves] = 10 * from + to;
+                        moveFrom[moves] = from;
+                        moveTo[moves] = to;
                         moves++;
                     }
                 }
             }
         }
 
-        private void start() {
-            if (stamp == STAMP_MOST) {
-                Arrays.fill(slots, 0);
-                stamp = 0;
-            }
-            stamp++;
+        private void start(long key) {
+            Arrays.fill(slots, 0);
             found = 0;
             head = 0;
             nextMove = 0;
             more = false;
-            long key = ahead.pack();
-            add(key, freeSlot(key), 0);
+            add(key);
         }
 
         /**
          * The first found with which the county is LAWFUL (farm NONE), or that farm has such a depth;
          * NOT_SO, BEYOND.
          */
-        int firstSuch(int farm, int depth) {
-            start();
+        int firstSuch(Ahead ahead, int farm, int depth) {
+            start(ahead.pack());
             for (int at = 0; at < FOUND_MOST && (at < found || findOne(FOUND_MOST)); at++) {
                 ahead.unpack(keys[at]);
                 if (farm == NONE ? ahead.isLawful() : ahead.depth[farm] >= depth) {
@@ -1568,8 +1560,8 @@ public final class WellsNotEven {
         }
 
         /** Finds all that come by so many buckets or fewer; false: they are too many. */
-        boolean findWithin(int buckets) {
-            start();
+        boolean findWithin(long key, int buckets) {
+            start(key);
             for (int b = 0; b < buckets && !more; b++) {
                 int edge = found;
                 boolean another = true;
@@ -1580,7 +1572,7 @@ public final class WellsNotEven {
             return !more;
         }
 
-        int firstLawfulOnSunday() {
+        int firstLawfulOnSunday(Ahead ahead) {
             for (int at = 0; at < found; at++) {
                 ahead.unpack(keys[at]);
                 ahead.pass(0, 0);
@@ -1596,10 +1588,9 @@ public final class WellsNotEven {
             for (; head < edge && head < found; head++) {
                 for (; nextMove < moves; nextMove++) {
                     long key = carried(keys[head], nextMove);
-                    int slot = key == NONE ? NONE : freeSlot(key);
-                    if (slot != NONE) {
+                    if (key != NONE && indexOf(key) == NONE) {
                         more = found == FOUND_MOST;
-                        return !more && add(key, slot, told[nextMove]);
+                        return !more && add(key);
                     }
                 }
                 nextMove = 0;
@@ -1607,64 +1598,82 @@ public final class WellsNotEven {
             return false;
         }
 
-        private boolean add(long key, int slot, int by) {
-            if (slot == NONE || found >= FOUND_MOST) {
+        private boolean add(long key) {
+            if (found >= FOUND_MOST || indexOf(key) != NONE) {
                 return false;
             }
+            slots[place / SLOTS_IN_ONE] |= found + 1L << place % SLOTS_IN_ONE * INDEX_BITS;
             keys[found] = key;
-            parent[found] = head;
-            arrivedBy[found] = by;
-            slots[slot] = stamp << INDEX_BITS | found;
             found++;
             return true;
         }
 
         /** The key after a bucket, or NONE if it can't be carried. */
         private long carried(long key, int move) {
-            int has = (int) (key >>> fromShift[move]) & DEPTH_MASK;
-            int other = (int) (key >>> toShift[move]) & DEPTH_MASK;
+            int fromShift = DEPTH_BITS * moveFrom[move];
+            int toShift = DEPTH_BITS * moveTo[move];
+            int has = (int) (key >>> fromShift) & DEPTH_MASK;
+            int other = (int) (key >>> toShift) & DEPTH_MASK;
             if (has < bucket || other > DEPTH_MOST - bucket) {
                 return NONE;
             }
-            return key - ((long) bucket << fromShift[move]) + ((long) bucket << toShift[move]);
+            return key - ((long) bucket << fromShift) + ((long) bucket << toShift);
         }
 
-        /** Where a new key would stand; NONE if it was found already. */
-        private int freeSlot(long key) {
-            int slot = (int) (key * SPREAD >>> 64 - SLOT_BITS);
+        /** Which of those found a key is, or NONE: there are more slots than keys, so that one is free. */
+        private int indexOf(long key) {
+            place = (int) (key * SPREAD >>> 64 - SLOT_BITS);
             for (int tries = 0; tries < SLOTS; tries++) {
-                int held = slots[slot];
-                if (held >>> INDEX_BITS != stamp) {
-                    return slot;
+                long held = slots[place / SLOTS_IN_ONE] >>> place % SLOTS_IN_ONE * INDEX_BITS;
+                int index = (int) (held & INDEX_MASK) - 1;
+                if (index < 0 || index < found && keys[index] == key) {
+                    return index;
                 }
-                int index = held & INDEX_MASK;
-                if (index < found && keys[index] == key) {
-                    return NONE;
-                }
-                slot = slot + 1 & SLOTS - 1;
+                place = place + 1 & SLOTS - 1;
             }
             return NONE;
         }
 
         int stepsTo(int at) {
             int steps = 0;
-            for (int i = at; i > 0 && steps < FOUND_MOST; i = parent[i]) {
+            for (int i = at; i > 0 && steps < FOUND_MOST; i = cameFrom(i)) {
                 steps++;
             }
             return steps;
         }
 
-        /** The first of the buckets that lead there, as many as a row holds. */
-        void tellWay(int at, Numbers numbers) {
-            int steps = stepsTo(at);
-            numbers.size = Math.min(NUMBERS_MOST, steps);
-            int i = at;
-            for (int left = steps; left > 0; left--) {
-                if (left <= NUMBERS_MOST) {
-                    numbers.list[left - 1] = arrivedBy[i];
+        private int cameFrom(int at) {
+            int back = moveBack(at);
+            return back == NONE ? 0 : indexOf(carried(keys[at], back));
+        }
+
+        /** The move from a found one back to where it came from; NONE from the first. */
+        private int moveBack(int at) {
+            int back = NONE;
+            int least = at;
+            for (int move = 0; move < moves; move++) {
+                long key = carried(keys[at], move);
+                int index = key == NONE ? NONE : indexOf(key);
+                if (index != NONE && index < least) {
+                    least = index;
+                    back = move;
                 }
-                i = parent[i];
             }
+            return back;
+        }
+
+        /** How many buckets lead there; the first of them, as many as a row holds, are told. */
+        int tellWay(int at, Numbers numbers) {
+            numbers.clear();
+            int steps = 0;
+            for (int i = at; i > 0 && steps < FOUND_MOST; i = cameFrom(i)) {
+                int back = moveBack(i);
+                if (back != NONE) {
+                    numbers.addAhead(10 * moveTo[back] + moveFrom[back]);
+                }
+                steps++;
+            }
+            return steps;
         }
     }
 

@@ -235,6 +235,9 @@ public final class BucketsTest {
         c.row("two", y, 1, 1);
         c.due("seven", y.fill(0, 11), 7);
         c.row("the least row", y, 10, 10, 10, 10, 10, 21, 10);
+        WellsNotEven far = Check.of("20;0;0;ab;bc");
+        c.due("a long way", far.fill(2, 6), 12);
+        c.row("its first ten", far, 1, 1, 1, 1, 1, 1, 12, 12, 12, 12);
         WellsNotEven z = crowd(50);
         z.weeks(0);
         c.due("too many", z.fill(0, 99), -3);
