@@ -119,6 +119,7 @@ final class AheadEdges {
         e.asks("the first found", of("6+1;7;ab"), x -> x.keeps(12, 1), 12, 6);
         e.asks("not lawful now, but on Sunday: none", of("5+1;5;ab"), x -> x.keeps(12, 2), 12, 0);
         e.asks("lawful now, not on Sunday: one", of("4+1;5;ab"), x -> x.keeps(1, 1), 1, 1);
+        e.asks("lawful behind the bucket, not on Sunday: it seeps back", of("5;5;ab/1"), x -> x.keeps(12, 1), 0, 0);
         e.asks("till the third is not", under("5+1;10;ab", 3), x -> x.keeps(12, 0), 2, 0);
         e.asks("till both are full", of("90+9;95+9;ab"), x -> x.keeps(12, 0), 0, 0);
     }
@@ -153,6 +154,12 @@ final class AheadEdges {
         e.asks("the fewest: d, not abc", of("5;5;5;5;ad;bd;cd"), x -> x.mercy(1), 3, 8);
         e.asks("of as few the least: ac, not bd", of("5;5;5;5;ab;bc;cd;da"), x -> x.mercy(1), 4, 5);
         e.asks("all of nine", () -> Edges.crowd(5), x -> x.mercy(100), 36, 255);
+        e.asks("what was asked before does not matter", () -> {
+            WellsNotEven x = Check.of("5;5;ab");
+            x.mercy(1);
+            x.set(0, 0, 9);
+            return x;
+        }, x -> x.mercy(100), 0, 0);
         e.says(31, "NONE: another n.");
         e.alone("101", of("5;5;ab"), x -> x.mercy(101), -1);
         e.alone("-1", of("5;5;ab"), x -> x.mercy(-1), -1);
@@ -169,6 +176,7 @@ final class AheadEdges {
         e.alone("alike now, and then", of("5;5"), x -> x.drought(0), 1);
         e.alone("alike now, not then, and when full", of("97+1;97"), x -> x.drought(1), 2);
         e.alone("all, not two of three", of("97;99;96"), x -> x.drought(1), 3);
+        e.alone("nine farms", () -> Edges.crowd(5), x -> x.drought(-9), 1);
         e.alone("99", of("0;5"), x -> x.drought(1), 99);
         // How many weeks these want was counted by another program.
         e.alone("100", of("81+1;64;97;47;81;ac/1;ae/1;bc/7;cd/4;ce/1;de/8"), x -> x.drought(-1), 100);
@@ -227,6 +235,11 @@ final class AheadEdges {
             x.law(1, 0);
             return x;
         }, x -> x.payer(100), 0, 0, 0);
+        e.asks("what was asked before does not matter", () -> {
+            WellsNotEven x = Check.of("5;5;ab");
+            x.payer(100);
+            return x;
+        }, x -> x.payer(1), 0, 1, 2);
         e.says(34, "-2: no FARMS;");
         e.alone("0 weeks", of(""), x -> x.payer(0), -2);
         e.alone("100 weeks", of(""), x -> x.payer(100), -2);
@@ -272,10 +285,23 @@ final class AheadEdges {
         e.asks("both 1: the first", of("5;5;9;9;dc/9;ba/9"), WellsNotEven::seal, 0, 1, 1);
         e.asks("of one farm, the lesser other one", of("5;5;5;ca/9;ba/9"), WellsNotEven::seal, 0, 1, 1);
         e.asks("the last pair", of("5;5;5;5;5;5;5;5;5;ih/1;ab"), WellsNotEven::seal, 7, 8, 1);
+        e.asks("all of 36 pairs: the first", () -> stony(9), WellsNotEven::seal, 0, 1, 1);
         e.says(36, "-2: no STONE that is not tight.");
+        e.alone("36 tight ones", () -> stony(0), WellsNotEven::seal, -2);
         e.alone("all tight", of("5;5;ab/0"), WellsNotEven::seal, -2);
         e.alone("none touch", of("5;5"), WellsNotEven::seal, -2);
         e.alone("no farms", of(""), WellsNotEven::seal, -2);
+    }
+
+    /** Nine farms of one depth, of which all touch, with such a stone. */
+    private static WellsNotEven stony(int stone) {
+        WellsNotEven x = Edges.crowd(5);
+        for (int a = 0; a < 9; a++) {
+            for (int b = 0; b < a; b++) {
+                x.touch(a, b, stone);
+            }
+        }
+        return x;
     }
 
     private static void road(Edges e) {
@@ -285,6 +311,7 @@ final class AheadEdges {
         e.asks("one", of("5;5;ab/0"), x -> x.road(1, 0), 1);
         e.asks("two, the least between", of("5;5;5;5;ad;dc;ab;bc"), x -> x.road(0, 2), 2, 1);
         e.asks("the fewest, though a longer one has a lesser row", of("5;5;5;5;5;ab;bc;ce;ad;de"), x -> x.road(0, 4), 2, 3);
+        e.asks("the least between is the first farm", of("5;5;5;5;bd;dc;ba;ac"), x -> x.road(1, 2), 2, 0);
         e.asks("the most", of("5;5;5;5;5;5;5;5;5;ab;bc;cd;de;ef;fg;gh;hi"), x -> x.road(8, 0), 8, 7, 6, 5, 4, 3, 2, 1);
         e.says(37, "-2: none leads there;");
         e.alone("none leads there", of("5;5;5;5;ab;cd"), x -> x.road(1, 2), -2);
@@ -312,6 +339,7 @@ final class AheadEdges {
         e.asks("never by the last alone", of("60+1;20;82;ab/9;bc"), WellsNotEven::boon, 2, -2, -2);
         e.asks("all 1: the first", of("5;5;9;9;ab/9;cd/9"), WellsNotEven::boon, 0, 1, 1);
         e.asks("one farm", of("5+9"), WellsNotEven::boon, 0, -2, -2);
+        e.asks("nine farms", () -> Edges.crowd(5), WellsNotEven::boon, 0, 1, 1);
         e.says(38, "-2: no FARMS.");
         e.alone("no farms", of(""), WellsNotEven::boon, -2);
     }

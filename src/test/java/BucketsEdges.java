@@ -160,6 +160,11 @@ final class BucketsEdges {
         e.due("no more than there are", x.rests(40), 2);
         e.asks("the first is the last", under("5;5;ab", 9, 1), y -> y.rests(40), 1, 1, 1);
         e.asks("of one, the first is the last", under("5;5;ab", 9, 1), y -> y.rests(1), 1, 1, 1);
+        e.asks("nine farms, of which none is better off by a bucket", () -> {
+            WellsNotEven y = Edges.crowd(50);
+            y.law(0, 9);
+            return y;
+        }, y -> y.rests(40), 1, 1, 36);
         e.asks("no farms", WellsNotEven::new, y -> y.rests(40), 1, 1, 0);
         e.asks("no farms, no round", WellsNotEven::new, y -> y.rests(0), 0, 0, 0);
         WellsNotEven endless = Check.of("1;1;0;ab;bc;ac");

@@ -308,6 +308,18 @@ final class NightsEdges {
             e.due("WEEKS", x.count(1), 25 + i);
         }
         e.due("no more", x.undo(), -1);
+        WellsNotEven full = Check.of("30;0;0;ab");
+        for (int i = 0; i < 20; i++) {
+            full.carry(0, 1);
+        }
+        Check.night(full, "c>a");
+        full.rests(5);
+        full.weeks(0);
+        e.due("calls that are not kept take no place", full.count(5), 20);
+        for (int i = 19; i >= 0; i--) {
+            e.due("left", full.undo(), i);
+        }
+        e.depths("nor do they change the first of twenty", full, 30, 0, 0);
     }
 
     private static void undoKept(Edges e) {

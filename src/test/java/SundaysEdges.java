@@ -155,6 +155,7 @@ final class SundaysEdges {
     private static void sunday(Edges e) {
         e.says(44, "The SUNDAY (1 .. 20 WEEKS on) that tells best whose SPRING is 1 more than told, one FARM's or nobody's");
         e.asks("the first", seeing("4;5;ab"), WellsNotEven::sunday, 1, 2);
+        e.asks("even, if it is nobody's", seeing("5;5;ab"), WellsNotEven::sunday, 1, 2);
         e.asks("the twentieth", seeing("0;20;ab"), WellsNotEven::sunday, 20, 2);
         e.asks("the twenty-first is not looked at", seeing("0;21;ab"), WellsNotEven::sunday, 1, 3);
         e.says(44, "by how many pairs are EVEN then: the one whose most likely number (as many such ways) leaves the fewest"

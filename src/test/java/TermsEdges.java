@@ -266,6 +266,16 @@ final class TermsEdges {
         x.week(-9, 64);
         e.depths("they come together: none lost, none missing", x, 0, 0, 0, 99, 99, 99, 99);
         e.row("they come together", x, 0, 0);
+        WellsNotEven seeped = Check.of("95;99;99;99;ab/1;ac/1;ad/1");
+        seeped.week(-1, 1);
+        e.depths("101 behind the seep, 100 behind the drought", seeped, 99, 97, 97, 97);
+        e.row("one lost", seeped, 0, 1);
+        seeped.undo();
+        seeped.week(-2, 1);
+        e.row("none lost", seeped, 0, 0);
+        seeped.undo();
+        seeped.week(0, 0);
+        e.row("two lost", seeped, 0, 2);
     }
 
     private static void sunday(Edges e) {
@@ -325,10 +335,17 @@ final class TermsEdges {
         WellsNotEven x = Check.of("5;5;9;9;ab;cd");
         e.due("two buckets", x.fewest(), 2);
         e.row("a to b first, c to d behind it", x, 1, 23);
+        WellsNotEven again = Check.of("5;5;ab");
+        e.due("from 5 and 5", again.reach(2), 5);
+        again.set(0, 0, 6);
+        e.due("from 6 and 5, as if none had been found before", again.reach(2), 5);
+        e.row("from 6 and 5", again, 5, 0);
         e.says(TERMS, "More than 3000 of them: -3.");
         e.due("50 times 60", Check.of("49;0;59;0;0;0;ab;cd;ef").fewest(), -2);
         // 59 times 51 are 3009; one of 3001 (a prime number) would want a well of more inches than there are.
-        e.due("51 times 59", Check.of("50;0;58;0;0;0;ab;cd;ef").fewest(), -3);
+        WellsNotEven many = Check.of("50;0;58;0;0;0;ab;cd;ef");
+        e.due("51 times 59", many.fewest(), -3);
+        e.due("of the next search there are no more", many.reach(0), 1);
     }
 
     private static void refused(Edges e) {
