@@ -1713,11 +1713,11 @@ public final class WellsNotEven {
         /** The fewest colours; the least row of them stands in colour then. */
         int paintAll() {
             for (int most = 0; most < farms; most++) {
-                if (paintFrom(0, 0, most)) {
+                if (paintFrom(this, 0, 0, most)) {
                     return most;
                 }
             }
-            paintFrom(0, 0, farms);
+            paintFrom(this, 0, 0, farms);
             return farms;
         }
 
@@ -1725,13 +1725,13 @@ public final class WellsNotEven {
          * Colours farm f and those behind it, the least ones first. Of colours that none has yet the
          * least alone is tried: the others would do as well and make a greater row. The depth is f.
          */
-        private boolean paintFrom(int f, int used, int most) {
-            if (f >= farms) {
+        private static boolean paintFrom(Graph graph, int f, int used, int most) {
+            if (f >= graph.farms) {
                 return true;
             }
             for (int c = 0; c < most && c <= used; c++) {
-                colour[f] = c;
-                if (isUnlike(f) && paintFrom(f + 1, Math.max(used, c + 1), most)) {
+                graph.colour[f] = c;
+                if (graph.isUnlike(f) && paintFrom(graph, f + 1, Math.max(used, c + 1), most)) {
                     return true;
                 }
             }

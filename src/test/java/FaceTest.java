@@ -104,19 +104,24 @@ public final class FaceTest {
         while (thrown.find()) {
             c.due("throws", thrown.group(1), "NoSuchElementException");
         }
-        lengths(code);
+        bodies(code);
     }
 
-    /** No method's body has more than sixty lines. */
-    private static void lengths(String code) {
+    /** No method's body has more than sixty lines, and one that calls itself is private and static (rule 8). */
+    private static void bodies(String code) {
         String start = null;
         int length = 0;
+        int recursive = 0;
         for (String line : code.split("\n")) {
             if (start == null && line.matches(" {4}( {4})?[\\w\\[\\]]+( [\\w\\[\\]]+)*\\(.*\\{")) {
                 start = line;
                 length = 0;
             } else if (start != null) {
                 length++;
+                if (line.matches(".*(?<![.\\w])" + nameOf(start) + "\\(.*")) {
+                    recursive++;
+                    c.due(start.trim() + " calls itself, and is private static", start.contains(" private static "), true);
+                }
                 if (line.equals("    }") || line.equals("        }")
                         && start.startsWith("        ")) {
                     c.due(start.trim() + " is short", length <= 60, true);
@@ -125,5 +130,10 @@ public final class FaceTest {
             }
         }
         c.due("the last one ended", start == null, true);
+        c.due("those that call themselves were met", recursive > 0, true);
+    }
+
+    private static String nameOf(String start) {
+        return start.substring(0, start.indexOf('(')).replaceAll(".* ", "");
     }
 }
